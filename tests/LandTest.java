@@ -127,6 +127,13 @@ public final class LandTest {
         Due.fault("Town 1;", 0);
         Due.fault("tow 1;", 0);
         Due.fault("towns 1;", 0);
+        Due.fault("gown 1;", 0);
+        Due.fault("toad 0 1 1;", 0);
+        Due.fault("stow 0 1;", 0);
+        Due.fault("stopz 0 1;", 0);
+        Due.fault("zstop 0 1;", 0);
+        Due.fault("astop 0 1;", 0);
+        Due.fault("stopa 0 1;", 0);
         Due.fault("townroad", 0);
         Due.fault("town 1;x", 7);
         Due.fault("town\t1;", 4);
@@ -180,6 +187,8 @@ public final class LandTest {
         Due.is("land() of items", Due.tell(x, "town 0;road;".substring(0, 7)), 1);
         Due.is("towns between stops", Due.tell(x, "town 1;stop 0 0;town 2;road 1 0 3;stop 1 1;road 0 1 1;stop 0 2;"), 7);
         Due.is("the road told first", x.stop(2, 2), 7);
+        Due.is("stops of 0", x.town(0, 2), 2);
+        Due.is("stops of 1", x.town(1, 2), 1);
     }
 
     private static void parts() {

@@ -40,6 +40,26 @@ public final class SeenTest {
         Due.is("two(), no way", x.two(), 1);
     }
 
+    private static void two() {
+        NoonWalker x = Due.told("town 1;town 2;road 0 1 3;stop 0 0;");
+        x.saw(0, 3, 5);
+        Due.is("two(), by the first", x.two(), 1);
+        x.saw(0, 12, 6);
+        Due.is("two(), still", x.two(), 1);
+        x.forget();
+        Due.is("two() behind forget()", x.two(), 0);
+        for (int hour = 0; hour < 7; hour++) x.saw(1, 12 + hour % 4, hour);
+        Due.is("two(), each in an hour of its own", x.two(), 0);
+        x.saw(1, 15, 7);
+        Due.is("two(), full", x.two(), 0);
+        x.forget();
+        x.saw(0, 13, 999);
+        x.saw(1, 14, 999);
+        Due.is("two(), both at one place", x.two(), 0);
+        x.saw(1, 13, 999);
+        Due.is("two(), in the last hour", x.two(), 1);
+    }
+
     private static void stood() {
         NoonWalker x = Due.told("town 1;town 2;town 3;road 1 0 4;road 1 2 1;road 2 0 9;stop 0 0;");
         // nothing seen: every place, 3 towns and 3 + 0 + 8 miles
@@ -89,6 +109,7 @@ public final class SeenTest {
     public static void main(String[] args) {
         saw();
         notSo();
+        two();
         stood();
         farPlaces();
         Due.finish("SeenTest");

@@ -398,7 +398,6 @@ public final class NoonWalker {
             towns = 0;
             roads = 0;
             stops = 0;
-            places = 0;
         }
 
         void addTown(int bid) {
@@ -407,11 +406,11 @@ public final class NoonWalker {
             towns++;
         }
 
-        void addRoad(int a, int b, int length) {
+        void addRoad(int a, int b, int way) {
             if (roads >= ROAD_LIMIT) return;
             roadA[roads] = a;
             roadB[roads] = b;
-            miles[roads] = length;
+            miles[roads] = way;
             roads++;
         }
 
@@ -638,9 +637,9 @@ public final class NoonWalker {
             if (!readNumber(0, into.towns - 1) || number == a) return false;
             int b = number;
             if (!readNumber(1, MILE_LIMIT)) return false;
-            int length = number;
+            int miles = number;
             if (!readSemicolon()) return false;
-            into.addRoad(a, b, length);
+            into.addRoad(a, b, miles);
             return true;
         }
 
