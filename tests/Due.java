@@ -1,7 +1,13 @@
+import java.lang.reflect.Method;
+import java.util.Arrays;
+import java.util.Comparator;
+
 /** What every test uses: telling texts, comparing answers, counting the wrong ones. */
 final class Due {
     private static int wrong = 0;
     private static int asked = 0;
+    /** Of a class of named tests: the one that runs. */
+    private static String test = "";
 
     private Due() {
     }
@@ -10,7 +16,7 @@ final class Due {
         asked++;
         if (got == want) return;
         wrong++;
-        if (wrong <= 50) System.out.println(call + " answered " + got + ", due is " + want);
+        if (wrong <= 50) System.out.println(test + call + " answered " + got + ", due is " + want);
     }
 
     /** Types all bytes of the text, as many in one call as go; answers what the last call did. */
@@ -37,6 +43,13 @@ final class Due {
         return x;
     }
 
+    /** A new object reads the text, and has so many items. */
+    static void good(String text, int items) {
+        NoonWalker x = new NoonWalker();
+        is("land() of '" + text + "'", tell(x, text), items);
+        is("count(5) behind '" + text + "'", x.count(5), 0);
+    }
+
     /** A new object answers -10 less this place for the text, and nothing has changed. */
     static void fault(String text, int place) {
         NoonWalker x = told("town 7;town 8;road 0 1 3;stop 0 1;");
@@ -55,6 +68,22 @@ final class Due {
         is("land() of '" + text + "' again", x.land(), -10 - place);
         is("clear() behind '" + text + "'", x.clear(), text.length());
         is("back(1) behind '" + text + "'", x.back(1), 5);
+    }
+
+    /** Runs the named tests of a class: its methods without parameters whose names begin with the word. */
+    static void all(Class<?> tests, String... words) throws ReflectiveOperationException {
+        Method[] methods = tests.getDeclaredMethods();
+        Arrays.sort(methods, Comparator.comparing(Method::getName));
+        for (Method method : methods) {
+            boolean named = Arrays.stream(words).anyMatch(method.getName()::startsWith);
+            if (!named || method.getParameterCount() != 0) continue;
+            test = method.getName() + ": ";
+            int before = asked;
+            method.invoke(null);
+            if (asked == before) is("it asks for nothing", 0, 1);
+        }
+        test = "";
+        finish(tests.getSimpleName());
     }
 
     static void finish(String name) {
