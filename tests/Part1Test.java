@@ -448,6 +448,11 @@ public final class Part1Test {
             Due.fault(word + " 1;", 0);
             Due.fault("town 1; " + word, 8);
         }
+        for (String word : new String[] {"town", "road", "stop"}) {
+            for (int i = 0; i < 4; i++) Due.fault(word.substring(0, i) + "z" + word.substring(i + 1) + " 1;", 0);
+            for (int i = 0; i < 4; i++) Due.fault("town 1;" + word.substring(0, i) + word.substring(i + 1) + " 1;", 7);
+            for (int i = 0; i <= 4; i++) Due.fault(word.substring(0, i) + "a" + word.substring(i) + " 1;", 0);
+        }
         Due.fault("town towns", 5);
         Due.fault("t".repeat(300), 0);
     }

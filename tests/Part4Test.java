@@ -216,6 +216,40 @@ public final class Part4Test {
         Due.is("trace()", x.trace(), 1012);
     }
 
+    /** Every land is as if it were the first, however many have been told and whatever they had. */
+    static void part4ReadAnewNothingOfOldLandsStays() {
+        NoonWalker x = used();
+        for (int i = 0; i < 3; i++) {
+            Due.is("land(), most", Due.tell(x, "town99;".repeat(6) + "road0 1 30;".repeat(10) + "stop0 9;stop1 9;".repeat(5)), 26);
+            Due.is("stood(0, 0), most", x.stood(0, 0), 296);
+            Due.is("land(), two towns", Due.tell(x, "town 0;town 0;road 1 0 3;"), 3);
+            Due.is("stood(0, 0), two towns", x.stood(0, 0), 4);
+            Due.is("town(2, 0), two towns", x.town(2, 0), -1);
+            Due.is("road(1, 0), two towns", x.road(1, 0), -1);
+            Due.is("stop(0, 0), two towns", x.stop(0, 0), -1);
+            Due.is("where(5, 0), two towns", x.where(5, 0), -9);
+            Due.is("town(0, 1), two towns", x.town(0, 1), 1);
+            Due.is("far(0, 1), two towns", x.far(0, 1), 3);
+            Due.is("best(0, 1), two towns", x.best(0, 1), -9);
+            Due.is("land(), no roads", Due.tell(x, "town 0;town 0;town 0;stop 2 0;"), 4);
+            Due.is("far(0, 1), no roads", x.far(0, 1), -9);
+            Due.is("stood(0, 0), no roads", x.stood(0, 0), 3);
+            Due.is("clock(2, 999), no roads", x.clock(2, 999), 12);
+        }
+    }
+
+    static void part4ReadBehindAFaultNothingOfItStays() {
+        NoonWalker x = used();
+        Due.is("land()", Due.tell(x, "town 1;town 2;road 0 1 5;stop 0 0;stop 1 0;!"), -53);
+        x.clear();
+        Due.is("land()", Due.tell(x, "town 3;stop 0 1;"), 2);
+        int[] due = {1, 0, 1, 0, 0, 0};
+        for (int what = 0; what < 6; what++) Due.is("count(" + what + ")", x.count(what), due[what]);
+        Due.is("town(0, 0)", x.town(0, 0), 3);
+        Due.is("stop(0, 2)", x.stop(0, 2), 0);
+        Due.is("stood(0, 0)", x.stood(0, 0), 1);
+    }
+
     static void part4ReadAnewWithoutItems() {
         NoonWalker x = used();
         Due.is("land()", x.land(), 0);
