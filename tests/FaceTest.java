@@ -74,18 +74,35 @@ public final class FaceTest {
         }
     }
 
+    private static String code(String source) {
+        return source.replaceAll("(?s)/\\*.*?\\*/", " ").replaceAll("//[^\n]*", " ").replaceAll("\"[^\"]*\"", "\"\"");
+    }
+
     private static void words() throws IOException {
         String source = Files.readString(Path.of("src/main/java/NoonWalker.java"));
-        String code = source.replaceAll("(?s)/\\*.*?\\*/", " ").replaceAll("//[^\n]*", " ").replaceAll("\"[^\"]*\"", "\"\"");
+        String code = code(source);
         Matcher word = Pattern.compile(FORBIDDEN).matcher(code);
         while (word.find()) Due.is("the word " + word.group(), 1, 0);
         Due.is("signs beyond 127", source.chars().filter(c -> c > 127).count(), 0);
+    }
+
+    /** All rows are made with the object: what is made stands behind a field's =, in a line of its own. */
+    private static void noCallMakesAnObject() throws IOException {
+        int fields = 0;
+        for (String line : code(Files.readString(Path.of("src/main/java/NoonWalker.java"))).split("\n")) {
+            if (!line.matches(".*(\\bnew\\b|\\bclone\\b|\\bcopyOf|\\{\\s*-?\\d).*")) continue;
+            boolean field = line.matches(" +(private final|private|final) [A-Za-z]+(\\[\\])? [a-zA-Z0-9]+ = new [A-Za-z]+(\\(\\)|\\[[A-Z_ *]+\\]);");
+            Due.is("a field's first value:" + line, field ? 1 : 0, 1);
+            fields++;
+        }
+        Due.is("fields that hold something", Math.min(fields, 1), 1);
     }
 
     public static void main(String[] args) throws Exception {
         face();
         inside();
         words();
+        noCallMakesAnObject();
         Due.finish("FaceTest");
     }
 }

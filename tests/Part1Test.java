@@ -337,6 +337,24 @@ public final class Part1Test {
         Due.fault(TWO + "stop 0 town", 21);
     }
 
+    /** No kind of item has to come ahead of another one, as long as the towns and roads that an item needs were told. */
+    static void part1ItemsInAnyOrder() {
+        String ends = "town 21;town 22;town 23;town 24;";
+        NoonWalker x = Due.told(TWO + TEN_ROADS + TEN_STOPS + ends);
+        Due.is("count(0), towns last", x.count(0), 6);
+        Due.is("town(2, 0), towns last", x.town(2, 0), 21);
+        Due.is("town(5, 0), towns last", x.town(5, 0), 24);
+        Due.fault(TWO + TEN_ROADS + TEN_STOPS + ends + "town 1;", 246);
+        x = Due.told(TWO + "road 0 1 1;" + TEN_STOPS + "road 1 0 2;road 0 1 3;");
+        Due.is("count(1), roads last", x.count(1), 3);
+        Due.is("road(1, 2), roads last", x.road(1, 2), 2);
+        Due.is("road(2, 2), roads last", x.road(2, 2), 3);
+        Due.is("town(0, 1), roads last", x.town(0, 1), 3);
+        x = Due.told(TWO + "stop 0 9;" + TEN_ROADS + ends + "stop 1 0;");
+        Due.is("count(2), stops last", x.count(2), 2);
+        Due.is("stop(1, 2), stops last", x.stop(1, 2), 10);
+    }
+
     // ---- road A B M: two TOWNS that were told, not one and the same
 
     static void part1RoadFromATownThatWasTold() {
@@ -454,6 +472,9 @@ public final class Part1Test {
             for (int i = 0; i <= 4; i++) Due.fault(word.substring(0, i) + "a" + word.substring(i) + " 1;", 0);
         }
         Due.fault("town towns", 5);
+        Due.fault("town 1 towns;", 7);
+        Due.fault(TWO + "road 0 1 1 x;", 25);
+        Due.fault(TWO + "stop 0 0 x;", 23);
         Due.fault("t".repeat(300), 0);
     }
 
@@ -474,6 +495,21 @@ public final class Part1Test {
         Due.fault(TWO + "stop 00 0;", 19);
         Due.fault(TWO + "stop 0 00;", 21);
         Due.good("town 0;", 1);
+    }
+
+    /** A number that can't be one stands for nothing else: no end of an item, no word, no end of the text. */
+    static void part1NumberThatIsNoneWhereNoNumberIsDue() {
+        for (String number : new String[] {"100", "00", "01", "099", "4294967297"}) {
+            Due.fault("town 1 " + number, 7);
+            Due.fault("town 1 " + number + ";", 7);
+            Due.fault(TWO + "road 0 1 1 " + number + " stop 0 0;", 25);
+            Due.fault(TWO + "stop 0 0 " + number + " town 1;", 23);
+            Due.fault(number, 0);
+            Due.fault(number + " 1;", 0);
+            Due.fault("town 1;" + number + ";", 7);
+            Due.fault(TWO + number + " 0 1 1;", 14);
+            Due.fault(TWO + number + " 0 1;", 14);
+        }
     }
 
     static void part1NumberWithA0Behind() {
